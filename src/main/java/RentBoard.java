@@ -1487,7 +1487,11 @@ public final class RentBoard {
         }
 
         int others(int piece) {
-            return squaresOf(0, piece) | squaresOf(1, piece);
+            int found = 0;
+            for (int i = 0; i < size; i++) {
+                found |= i != piece ? bitOf(place[i]) : 0;
+            }
+            return found;
         }
 
         int reach(int piece) {
