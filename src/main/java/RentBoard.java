@@ -338,16 +338,15 @@ public final class RentBoard {
 
     private int gameFault() {
         int limit = Math.min(text.size, MOST_OF_GAME);
-        for (int p = 0; p < limit; p++) {
-            char act = text.at(p);
-            if (ACTS.indexOf(act) < 0) {
+        for (int p = 0; p < limit; p += 1 + shapeOf(text.at(p)).length()) {
+            if (ACTS.indexOf(text.at(p)) < 0) {
                 return p;
             }
-            String shape = shapeOf(act);
+            String shape = shapeOf(text.at(p));
             for (int i = 0; i < shape.length(); i++) {
-                p++;
-                if (p >= limit || !suits(text.at(p), shape.charAt(i))) {
-                    return p;
+                int at = p + 1 + i;
+                if (at >= limit || !suits(text.at(at), shape.charAt(i))) {
+                    return at;
                 }
             }
         }
