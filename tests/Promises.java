@@ -1283,7 +1283,7 @@ public final class Promises {
         rowIs("the ROW stays", 0, 0);
         club(43, "Ka120;kc320", "");
         int made = 0;
-        for (int seed = -40; seed < 40; seed++) {
+        for (int seed = -30; seed < 30; seed++) {
             int r = seed * 1103515245 + 12345;
             boolean quarter = (r >>> 16) % 4 == 3;
             r = r * 1103515245 + 12345;
@@ -1297,6 +1297,7 @@ public final class Promises {
         }
         due("some of them were MOVES", made > 0, true);
         due("nothing changed", b.count(2) + b.count(3) + b.count(4) + b.count(9), 0);
+        club(43, "Ka120;kc320", "");
         b.passes();
         boolean black = false;
         for (int seed = 0; seed < 80; seed++) {
