@@ -298,7 +298,7 @@ public final class SentencesOfChances {
 
     private static void lawsThatFail() {
         Club.says("-10000 - p: the sign at p can't stand there (as rule())");
-        String[] texts = {"?", "1+", "1000", "1<2<3", "(((((1", "(1", ")", "1 ", "-", "1+".repeat(20) + "1", "1".repeat(3) + "+".repeat(80 - 3),
+        String[] texts = {"?", "1+", "1000", "1<2<3", "(((((1", "(1", ")", "1 ", "-", "1+".repeat(20) + "1", "111" + "+".repeat(77),
             "-".repeat(41), "1+".repeat(19) + "1?1", "1+".repeat(19) + "1+"};
         int[] at = {0, 2, 3, 3, 4, 2, 0, 1, 1, 40, 4, 40, 39, 40};
         Club c = Club.of("Ka150", "7");

@@ -457,7 +457,8 @@ public final class SentencesOfRules {
         Club.due("RENT of an edge", c.rent(1, 3), 1);
         c.rowIs("the ROW stays", 7, 10);
         Club.says("THE TEXT is THE RULE (one behind another, and behind such as can't be)");
-        String[] rules = {"-5+9", "7", "((((1", "((((5))))", "1<2<", "1<2", "1234", "4", "-", "8", "x+", "(1+2)*3", ")", "2=1+1", "--", "6"};
+        String[] rules = {"-5+9", "7", "((((1", "((((5))))", "1<2<", "1<2", "1234", "4", "-", "8", "x+", "(1+2)*3", ")",
+            "2=1+1", "--", "6"};
         int[] rents = {4, 7, 7, 5, 5, 1, 1, 4, 4, 8, 8, 9, 9, 1, 1, 6};
         Club many = Club.of("Ka150");
         for (int i = 0; i < rules.length; i++) {

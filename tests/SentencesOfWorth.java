@@ -73,6 +73,7 @@ public final class SentencesOfWorth {
         best("WORTH below 0", Club.of("Kc300;re590", "5"), at("b2"), -85);
         best("all go OUT", Club.of("Ke504;ka104", "5"), at("d4"), 0);
         best("piece 0 to SQUARE 0", Club.of("Kb150;re540", "0"), 0, 10);
+        best("piece 0 takes on SQUARE 0", Club.of("Kb150;ra140", "0"), 0, 90);
         best("piece 0 to SQUARE 24", Club.of("Kd450", "9-9*(x+y=8)"), 24, 50);
         best("piece 7 to SQUARE 24", Club.of("Pa510;Pb510;Pc510;Pd510;pa110;pb110;pc110;Ke450", "9-9*(x+y=8)"), 724, 50 + 4 - 3);
     }
@@ -150,6 +151,7 @@ public final class SentencesOfWorth {
         looks("piece 0 to SQUARE 0", Club.of("Kb250;ke550", "9-9*(x+y=0)"), 2, 9, 0, 118);
         looks("piece 0 to SQUARE 24", Club.of("Kd450;pe150", "9-9*(x+y=8)"), 2, 9, 24);
         looks("an answer by piece 0 to SQUARE 0", Club.of("kb250;Ke550", "0"), 2, 0, 118, 0);
+        looks("an answer by piece 0 that takes on SQUARE 0", Club.of("kb250;Ke500;Na140", "0"), 2, -90, 118, 0);
         looks("an answer to SQUARE 24", Club.of("kd450;Ka150", "9-9*(x+y=8)"), 2, -9, 101, 24);
         looks("two rooks alike", Club.of("re550;Ra150;Re150;ra550", "0"), 2, 50 - 99, 100 + at("a5"), at("a5"));
     }
