@@ -25,12 +25,26 @@ public final class Language {
         + "int odds(int,int,int);int knights(int,int);int rests(int);int law();int years(int,int);boolean keep(int);"
         + "boolean again(int);int count(int);long row(int)!";
 
+    /** What the interface says ahead of its calls, and the calls. */
+    private static final String[] HEADINGS = {
+        "pieces: sign end pieces rule piece square rent sheet",
+        "moves, quarter days: moves quarters passes gives wages game undo",
+        "where one can go: goes threats hops ways",
+        "rents: owes later when needs cheapest wanders stays",
+        "what pays best (WORTH of a SIDE: PURSES of its PIECES together, less those of the other SIDE's): best looks choices",
+        "which piece it was: heard forget fits asks",
+        "laws of rent (a 0 .. 6, b 0 .. 6: a for each that d is less than 2, and b): saw denies laws sees",
+        "chances, a knight: odds knights",
+        "rests, rules, years: rests law years",
+        "kept: keep again count row"};
+
     private static int wrong;
 
     public static void main(String[] args) throws IOException {
         face();
         members();
         source();
+        headings();
         System.out.println(wrong == 0 ? "the face and the language are kept" : wrong + " faults of face or language");
         if (wrong != 0) {
             System.exit(1);
@@ -115,6 +129,26 @@ public final class Language {
             fault(!code.startsWith("throw new NoSuchElementException(", thrown.start()), "it throws another exception");
         }
         lengths(code);
+    }
+
+    /** Headings of which no call of the face comes ahead of the next one are the program's own. */
+    private static void headings() throws IOException {
+        List<String> got = new ArrayList<>();
+        String heading = "";
+        StringBuilder calls = new StringBuilder();
+        for (String line : (Files.readString(SOURCE) + "\n    // ---- \n").split("\n")) {
+            Matcher call = Pattern.compile(" {4}public \\w+ (\\w+)\\(.*").matcher(line);
+            if (call.matches()) {
+                calls.append(' ').append(call.group(1));
+            } else if (line.startsWith("    // ----")) {
+                if (calls.length() > 0) {
+                    got.add(heading + ":" + calls);
+                }
+                heading = line.substring("    // ----".length()).trim();
+                calls.setLength(0);
+            }
+        }
+        fault(!got.equals(Arrays.asList(HEADINGS)), "the headings and the calls behind them are " + got);
     }
 
     /** Methods stay under some sixty lines. */

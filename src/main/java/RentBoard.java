@@ -578,7 +578,7 @@ public final class RentBoard {
         return all;
     }
 
-    // ---- what pays best
+    // ---- what pays best (WORTH of a SIDE: PURSES of its PIECES together, less those of the other SIDE's)
 
     public int best() {
         int worth = lookahead.oneMove(now, rule, FAR_BEYOND);
@@ -703,7 +703,7 @@ public final class RentBoard {
         return found;
     }
 
-    // ---- laws of rent
+    // ---- laws of rent (a 0 .. 6, b 0 .. 6: a for each that d is less than 2, and b)
 
     public int saw(int d, int v) {
         if (d < 0 || d > 2 || v < 0 || v > DEAREST) {
